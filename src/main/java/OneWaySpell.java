@@ -301,17 +301,11 @@ public final class OneWaySpell {
     // ---- CURES
 
     public int cure(int way) {
-        if (!Groups.isWay(way)) {
-            return NONE;
-        }
-        if (cures == null) {
-            cures = new Cures();
-        }
-        return cures.fewest(groups, way);
+        return theCures().fewest(groups, way);
     }
 
     public int mend(int way) {
-        int mask = cure(way);
+        int mask = theCures().fewest(groups, way);
         if (mask <= 0) {
             return NONE;
         }
@@ -378,6 +372,13 @@ public final class OneWaySpell {
             reader = new Reader();
         }
         return reader;
+    }
+
+    private Cures theCures() {
+        if (cures == null) {
+            cures = new Cures();
+        }
+        return cures;
     }
 
     private void put(int number) {
@@ -462,10 +463,6 @@ public final class OneWaySpell {
         private final int[] actWay = new int[ACTS_KEPT];
         private final int[] actMask = new int[ACTS_KEPT];
         private int actCount;
-
-        private static boolean isWay(int way) {
-            return way >= MARK_BEHIND && way <= LEFT_OUT;
-        }
 
         private boolean has(int k) {
             return k >= 0 && k < count;
@@ -895,6 +892,11 @@ public final class OneWaySpell {
         private final int[] depth = new int[NODE_MOST];
         private final boolean[] whole = new boolean[NODE_MOST];
         private final boolean[] inner = new boolean[NODE_MOST];
+        private final int[] parent = new int[NODE_MOST];
+        private final int[] lastSign = new int[NODE_MOST];
+        /** All nodes but the root, by their last signs; where each sign's nodes begin. */
+        private final int[] bySign = new int[NODE_MOST];
+        private final int[] signStart = new int[SIGNS + 1];
         private int size;
         private int stamp = NONE;
 
@@ -911,11 +913,10 @@ public final class OneWaySpell {
                     plant(g.code[k], g.length[k]);
                 }
             }
-            for (int u = 0; u < size; u++) {
-                for (int s = 1; s < SIGNS; s++) {
-                    linkSuffixes(u, s);
-                }
+            for (int w = 1; w < size; w++) {
+                linkSuffixes(w);
             }
+            listBySign();
         }
 
         private void plant(long code, int n) {
@@ -929,6 +930,8 @@ public final class OneWaySpell {
                     size++;
                     child[u * SIGNS + s] = w;
                     depth[w] = depth[u] + 1;
+                    parent[w] = u;
+                    lastSign[w] = s;
                 }
                 if (w == NONE) {
                     return;
@@ -939,15 +942,29 @@ public final class OneWaySpell {
         }
 
         /** A node's number is above its parent's, so the parent's suffixes stand when they are asked for. */
-        private void linkSuffixes(int u, int s) {
-            int w = child[u * SIGNS + s];
-            if (w == NONE) {
-                return;
-            }
+        private void linkSuffixes(int w) {
             suffix[w * DEPTHS] = 0;
             for (int d = 1; d <= depth[w] && d < DEPTHS; d++) {
-                suffix[w * DEPTHS + d] = next(back(u, d - 1), s);
+                suffix[w * DEPTHS + d] = next(back(parent[w], d - 1), lastSign[w]);
             }
+        }
+
+        private void listBySign() {
+            int n = 0;
+            for (int s = 0; s < SIGNS; s++) {
+                signStart[s] = n;
+                for (int w = 1; w < size; w++) {
+                    if (lastSign[w] == s) {
+                        bySign[n] = w;
+                        n++;
+                    }
+                }
+            }
+            signStart[SIGNS] = n;
+        }
+
+        private boolean isUsed(int s) {
+            return s >= 1 && s < SIGNS && signStart[s] < signStart[s + 1];
         }
 
         private int next(int u, int s) {
@@ -1201,7 +1218,7 @@ public final class OneWaySpell {
         private boolean goOn(Tree t, int first, int stop) {
             for (int s = 1; s <= MARK; s++) {
                 beginnings++;
-                for (int e = first; e < stop; e++) {
+                for (int e = first; e < stop && t.isUsed(s); e++) {
                     if (step(t, e, s)) {
                         last = e;
                         lastSign = s;
@@ -1556,7 +1573,7 @@ public final class OneWaySpell {
             for (int s = 0; s < states; s++) {
                 firstEdge[s] = edgeCount;
                 for (int sign = 1; sign <= MARK && level[s] < LONGEST; sign++) {
-                    int to = keyBehind(t, key[s], sign);
+                    int to = t.isUsed(sign) ? keyBehind(t, key[s], sign) : 0;
                     if (to != 0) {
                         addEdge(sign, stateOf(to, level[s] + 1));
                     }
@@ -1721,11 +1738,11 @@ public final class OneWaySpell {
         private static final int SIZE_SHIFT = LONGEST * SIGN_BITS;
         private static final int CODE_MASK = (1 << SIZE_SHIFT) - 1;
 
-        /** For rows of n letters at n * NODE_MOST: from which nodes a way ends anywhere; inside a group. */
-        private final boolean[] passes = new boolean[(LONGEST + 1) * Tree.NODE_MOST];
-        private final boolean[] endsInside = new boolean[(LONGEST + 1) * Tree.NODE_MOST];
-        private boolean anyPasses;
-        private boolean anyEndsInside;
+        private static final int HALF = 64;
+
+        /** For rows of n letters at 2 * n: from which nodes a way ends anywhere; inside a group (bits of two longs). */
+        private final long[] passes = new long[2 * (LONGEST + 1)];
+        private final long[] endsInside = new long[2 * (LONGEST + 1)];
         /** Each a border's size above its letters, so that they come by size and as in a dictionary. */
         private int[] list = new int[64];
         private int size;
@@ -1735,13 +1752,37 @@ public final class OneWaySpell {
         private void build(Tree t, int newStamp) {
             stamp = newStamp;
             size = 0;
+            clear(0);
             for (int u = 0; u < t.size; u++) {
-                passes[u] = u == 0 || t.inner[u];
-                endsInside[u] = u != 0 && t.inner[u];
+                if (u == 0 || t.inner[u]) {
+                    put(passes, 0, u);
+                }
+                if (u != 0 && t.inner[u]) {
+                    put(endsInside, 0, u);
+                }
             }
             lengthen(t, 0, 0);
             sort();
             findStarts();
+        }
+
+        private void clear(int n) {
+            passes[2 * n] = 0;
+            passes[2 * n + 1] = 0;
+            endsInside[2 * n] = 0;
+            endsInside[2 * n + 1] = 0;
+        }
+
+        private static void put(long[] set, int n, int u) {
+            set[2 * n + u / HALF] |= 1L << u % HALF;
+        }
+
+        private static boolean has(long[] set, int n, int u) {
+            return (set[2 * n + u / HALF] >>> u % HALF & 1) == 1;
+        }
+
+        private static boolean isEmpty(long[] set, int n) {
+            return (set[2 * n] | set[2 * n + 1]) == 0;
         }
 
         private void lengthen(Tree t, int n, int row) {
@@ -1751,27 +1792,24 @@ public final class OneWaySpell {
             for (int s = 1; s <= MARK; s++) {
                 putAhead(t, n, s);
                 int longer = s << SIGN_BITS * n | row;
-                if (anyPasses && anyEndsInside) {
+                if (!isEmpty(endsInside, n + 1)) {
                     lengthen(t, n + 1, longer);
-                } else if (anyPasses) {
+                } else if (!isEmpty(passes, n + 1)) {
                     keep(n + 1 << SIZE_SHIFT | longer);
                 }
             }
         }
 
         private void putAhead(Tree t, int n, int s) {
-            int now = n * Tree.NODE_MOST;
-            int then = now + Tree.NODE_MOST;
-            anyPasses = false;
-            anyEndsInside = false;
-            for (int u = 0; u < t.size; u++) {
-                int w = t.next(u, s);
-                boolean on = w != NONE && t.inner[w];
-                boolean over = w != NONE && t.whole[w];
-                passes[then + u] = on && passes[now + w] || over && passes[now];
-                endsInside[then + u] = on && endsInside[now + w] || over && endsInside[now];
-                anyPasses |= passes[then + u];
-                anyEndsInside |= endsInside[then + u];
+            clear(n + 1);
+            for (int i = t.signStart[s]; i < t.signStart[s + 1]; i++) {
+                int w = t.bySign[i];
+                if (t.inner[w] && has(passes, n, w) || t.whole[w] && has(passes, n, 0)) {
+                    put(passes, n + 1, t.parent[w]);
+                }
+                if (t.inner[w] && has(endsInside, n, w) || t.whole[w] && has(endsInside, n, 0)) {
+                    put(endsInside, n + 1, t.parent[w]);
+                }
             }
         }
 
@@ -1845,24 +1883,19 @@ public final class OneWaySpell {
             if (way < 0 || way >= WAYS) {
                 return NONE;
             }
-            if (answerStamp[way] != g.stamp) {
-                answer[way] = search(g, way);
-                answerStamp[way] = g.stamp;
+            if (answerStamp[way] == g.stamp) {
+                return answer[way];
             }
-            return answer[way];
-        }
-
-        private int search(Groups g, int way) {
             learnt = 0;
             hopeless = false;
             findChoosable(g);
-            for (int size = 0; size <= numbers && !hopeless; size++) {
-                int found = searchOfSize(g, way, size);
-                if (found != NONE) {
-                    return found;
-                }
+            int found = NONE;
+            for (int size = 0; size <= numbers && found == NONE && !hopeless; size++) {
+                found = searchOfSize(g, way, size);
             }
-            return NONE;
+            answer[way] = found;
+            answerStamp[way] = g.stamp;
+            return found;
         }
 
         private void findChoosable(Groups g) {

@@ -447,7 +447,7 @@ public final class OneWaySpell {
 
     /** The groups of the table, which are in, and the acts that can be undone. */
     private static final class Groups {
-        private static final int MARK_BEHIND = 0;
+        // ways of a cure; the third one, 0, marks behind
         private static final int MARK_AHEAD = 1;
         private static final int LEFT_OUT = 2;
         private static final int ACTS_KEPT = 12;
@@ -526,9 +526,9 @@ public final class OneWaySpell {
             }
             for (int k = 0; k < count; k++) {
                 if ((mask >>> k & 1) == 1 && length[k] < GROUP_LONGEST) {
-                    code[k] = way == MARK_BEHIND
-                            ? code[k] << SIGN_BITS | MARK
-                            : (long) MARK << SIGN_BITS * length[k] | code[k];
+                    code[k] = way == MARK_AHEAD
+                            ? (long) MARK << SIGN_BITS * length[k] | code[k]
+                            : code[k] << SIGN_BITS | MARK;
                     length[k]++;
                 }
             }
@@ -539,7 +539,7 @@ public final class OneWaySpell {
             for (int k = 0; k < count; k++) {
                 if ((mask >>> k & 1) == 1 && length[k] > 1) {
                     length[k]--;
-                    code[k] = way == MARK_BEHIND ? code[k] >>> SIGN_BITS : lastOf(code[k], length[k]);
+                    code[k] = way == MARK_AHEAD ? lastOf(code[k], length[k]) : code[k] >>> SIGN_BITS;
                 }
             }
         }
@@ -1201,8 +1201,8 @@ public final class OneWaySpell {
             beginnings = 0;
             push(0, 0, NONE, 0);
             int first = 0;
-            while (first < size) {
-                int stop = first;
+            while (first < size && first < STATES) {
+                int stop = first + 1;
                 while (stop < size && beginning[stop] == beginning[first]) {
                     stop++;
                 }
@@ -1275,7 +1275,7 @@ public final class OneWaySpell {
             int n = found.length - 1;
             found[n] = (byte) lastSign;
             int e = last;
-            // the first state has no sign
+            // the first state stands for the empty beginning
             while (n > 0 && e > 0) {
                 n--;
                 found[n] = sign[e];
@@ -1306,10 +1306,10 @@ public final class OneWaySpell {
         }
 
         private static boolean prefers(Groups g, int kind, int b, int a) {
-            if (kind == BY_NUMBER) {
-                return b < a;
+            if (kind == BY_LONGEST) {
+                return g.length[b] > g.length[a];
             }
-            return kind == BY_LONGEST ? g.length[b] > g.length[a] : g.length[b] < g.length[a];
+            return kind == BY_SHORTEST ? g.length[b] < g.length[a] : b < a;
         }
 
         private static int choose(Word word, Groups g, int kind, int at) {
@@ -1548,6 +1548,8 @@ public final class OneWaySpell {
         private static final int DEPTH_MOST = GROUP_LONGEST - 1;
         private static final int KEY_BITS = 2 * GROUP_LONGEST;
         private static final int STATES_AT_FIRST = 64;
+        /** Above 85 inner nodes times 3 to the 6 numbers of readings; some 500 are the most that have been seen. */
+        private static final int STATES_MOST = 1 << 17;
         private static final int SPREAD = 0x9E3779B1;
 
         private int[] key = new int[STATES_AT_FIRST];
@@ -1570,7 +1572,7 @@ public final class OneWaySpell {
             edgeCount = 0;
             Arrays.fill(slot, 0);
             stateOf(1, 0);
-            for (int s = 0; s < states; s++) {
+            for (int s = 0; s < states && s < STATES_MOST; s++) {
                 firstEdge[s] = edgeCount;
                 for (int sign = 1; sign <= MARK && level[s] < LONGEST; sign++) {
                     int to = t.isUsed(sign) ? keyBehind(t, key[s], sign) : 0;

@@ -172,7 +172,7 @@ public final class ModelTest {
     switch (chance.nextInt(31)) {
       case 0: return compare("fault " + a, x.fault(a), m.fault(a));
       case 1: return askGroup();
-      case 2: return compare("about " + (a + c), x.about(a + c), m.about(a + c));
+      case 2: return askAbout();
       case 3: return askMeets();
       case 4: return compare("parts", x.parts(), m.parts());
       case 5: return compare("tails " + a, x.tails(a), m.tails(a));
@@ -208,6 +208,11 @@ public final class ModelTest {
     int k = number(m.groupCount());
     int what = chance.nextBoolean() ? number(4) : 10 + chance.nextInt(8);
     return compare("group " + k + " " + what, x.group(k, what), m.group(k, what));
+  }
+
+  private String askAbout() {
+    int what = number(9);
+    return compare("about " + what, x.about(what), m.about(what));
   }
 
   private String askMeets() {

@@ -60,6 +60,7 @@ public final class PromiseTest {
     out();
     undo();
     undoKeepsTwelve();
+    marksInDoubt();
     System.out.println(wrong == 0 ? "every promise holds" : wrong + " answers are not as due");
     if (wrong != 0) {
       System.exit(1);
@@ -140,6 +141,8 @@ public final class PromiseTest {
     due("empty text", x.table(), 0);
     due("no groups", x.about(1), 0);
     due("no sounds", x.about(0), 0);
+    due("names and groups of five and six letters", Tapes.table(x, "sound abcde=abcde;sound abcdef=abcdef;"), 2);
+    due("names that are groups, too", Tapes.table(x, "sound a=b;sound b=a;sound c=sound;"), 3);
     due("no blank", Tapes.table(x, "sound a=b;sound\nc=d|e;"), 3);
     due("blanks alone", Tapes.table(x, " \n \n"), 0);
     due("fourteen of six", Tapes.table(x, fourteen("")), 14);
@@ -205,6 +208,8 @@ public final class PromiseTest {
     faultIs("soun a=b;", 2, 0);
     faultIs("sounda=b;", 2, 0);
     faultIs("a=b;", 2, 0);
+    faultIs("sount a=b;", 2, 0);
+    faultIs("abcde a=b;", 2, 0);
     faultIs(";", 2, 0);
     faultIs("sound sound=b;", 2, 6);
     faultIs("sound =b;", 2, 6);
@@ -291,6 +296,10 @@ public final class PromiseTest {
     due("what -1", x.about(-1), -1);
     due("what MAX", x.about(MAX), -1);
     OneWaySpell ends = Tapes.of("sound p = b | ab;");
+    due("the first begins the last", Tapes.of("sound p=a|c|ab;").about(7), 0);
+    due("the last begins the first", Tapes.of("sound p=ab|c|a;").about(7), 0);
+    due("the first ends the last", Tapes.of("sound p=b|c|ab;").about(8), 0);
+    due("the last ends the first", Tapes.of("sound p=ab|c|b;").about(8), 0);
     due("begins, ends alone", ends.about(7), 1);
     due("ends, ends alone", ends.about(8), 0);
     due("K of one letter", Tapes.of("sound p = a | aa;").about(3), 2);
@@ -931,5 +940,64 @@ public final class PromiseTest {
     due("behind three: out", x.group(0, 2), 1);
     x.out(0, false);
     due("a new one", x.about(5), 1);
+  }
+
+  /** Marks that were needed once can be in doubt when other groups come in: a{ and xa{ and x. */
+  private static void marksInDoubt() {
+    OneWaySpell x = Tapes.of("sound p = a | xa ; sound q = ab | b | xab ; sound r = x ;");
+    x.out(1, true);
+    x.out(4, true);
+    x.out(5, true);
+    promise = 33;
+    due("a is marked", x.mend(0), 1);
+    x.out(2, true);
+    x.out(1, false);
+    x.out(4, false);
+    due("xa is marked", x.mend(0), 1);
+    due("xa{", Tapes.group(x, 1), "xa{");
+    x.out(3, true);
+    x.out(4, true);
+    x.out(5, false);
+    promise = 7;
+    due("in", x.about(2), 35);
+    due("K", x.about(3), 3);
+    promise = 8;
+    due("x, a{", x.meets(5, 0), 0);
+    due("xa{, a{", x.meets(1, 0), 0);
+    promise = 11;
+    due("tails", Tapes.tails(x, 1), "a{");
+    due("the mark", x.tail(1, 0, 1), 123);
+    promise = 13;
+    due("witness", x.witness(), 3);
+    due("xa{", Tapes.theWord(x), "xa{");
+    due("its mark", x.letter(2), 123);
+    promise = 18;
+    due("readings", x.readings(), 2L);
+    promise = 19;
+    due("first", Tapes.reading(x, 0), "1");
+    due("second", Tapes.reading(x, 1), "5 0");
+    promise = 15;
+    due("1/9 + 1/27 + 1/3, upper", x.share(0), 13L);
+    due("1/9 + 1/27 + 1/3, lower", x.share(1), 27L);
+    promise = 23;
+    due("fool by the longest", x.fool(0), 3);
+    due("xa{", Tapes.theWord(x), "xa{");
+    promise = 27;
+    due("a{x, xa{, xxx", x.words(3, 0), 3L);
+    due("doubtful", x.words(3, 2), 1L);
+    promise = 28;
+    due("nth", x.nth(3, 1), true);
+    due("xa{", Tapes.theWord(x), "xa{");
+    promise = 29;
+    due("place", x.place(), 1L);
+    promise = 31;
+    due("borders", Tapes.borders(x, 1), "{");
+    promise = 35;
+    for (int i = 0; i < 10; i++) {
+      due("undo", x.undo(), true);
+    }
+    due("the first act too", x.about(2), 63 - 2);
+    due("a", Tapes.group(x, 0), "a");
+    due("xa", Tapes.group(x, 1), "xa");
   }
 }

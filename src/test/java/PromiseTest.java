@@ -61,6 +61,7 @@ public final class PromiseTest {
     undo();
     undoKeepsTwelve();
     marksInDoubt();
+    sevenLetters();
     System.out.println(wrong == 0 ? "every promise holds" : wrong + " answers are not as due");
     if (wrong != 0) {
       System.exit(1);
@@ -999,5 +1000,36 @@ public final class PromiseTest {
     due("the first act too", x.about(2), 63 - 2);
     due("a", Tapes.group(x, 0), "a");
     due("xa", Tapes.group(x, 1), "xa");
+  }
+
+  /** A group of six letters and the mark: the longest words that spell() and drawn() can make; it can't be marked again. */
+  private static void sevenLetters() {
+    OneWaySpell x = Tapes.of("sound p = aaaaaa ; sound q = a | aa ;");
+    x.out(2, true);
+    promise = 32;
+    due("the first one", x.cure(0), 1);
+    promise = 33;
+    due("marked", x.mend(0), 1);
+    due("seven letters", x.group(0, 1), 7);
+    x.out(1, true);
+    promise = 25;
+    due("28 letters", x.spell(0, 0, 0, 0), 28);
+    due("all of them", Tapes.theWord(x), "aaaaaa{".repeat(4));
+    due("its reading", x.readings(), 1L);
+    promise = 26;
+    due("35 letters", x.drawn(0, 5), 35);
+    due("all of these", Tapes.theWord(x), "aaaaaa{".repeat(5));
+    due("five groups", Tapes.taken(x, 0), "0 0 0 0 0");
+    promise = 16;
+    due("read from the tape", Tapes.word(x, "aaaaaa{".repeat(5)), 35);
+    promise = 15;
+    due("lower number of 7 letters", x.share(1), 128L);
+    x.out(1, false);
+    x.out(2, false);
+    promise = 32;
+    // a and aa are in doubt; aaaaaa{ has seven letters
+    due("not the one of seven letters, behind", x.cure(0), 2);
+    due("not the one of seven letters, ahead", x.cure(1), 2);
+    due("not the one of seven letters, out", x.cure(2), 2);
   }
 }

@@ -408,6 +408,13 @@ public final class OneWaySpell {
         return a;
     }
 
+    /** LANGUAGE.md lets Arrays.fill go over numbers alone. */
+    private static void lower(boolean[] flags, int count) {
+        for (int i = 0; i < count && i < flags.length; i++) {
+            flags[i] = false;
+        }
+    }
+
     // ---- rows of up to 7 letters in one long: 5 bits a letter (1 .. 27), the last one lowest.
     // No letter is 0, so unlike rows have unlike numbers, whatever their lengths.
 
@@ -751,6 +758,7 @@ public final class OneWaySpell {
     private static final class Word {
         /** Far above a witness, which passes through each of some 400 pairs of nodes once at most. */
         private static final int MOST = 800;
+        private static final long HIGHEST = -1L >>> 1;
 
         private final byte[] sign = new byte[MOST];
         private int size;
@@ -804,7 +812,7 @@ public final class OneWaySpell {
         }
 
         private static long sumWithoutWrap(long a, long b) {
-            return a > Long.MAX_VALUE - b ? Long.MAX_VALUE : a + b;
+            return a > HIGHEST - b ? HIGHEST : a + b;
         }
 
         private int groupOfReading(Groups g, int i, int k) {
@@ -862,7 +870,7 @@ public final class OneWaySpell {
         }
 
         private int longestBeginning(Groups g) {
-            Arrays.fill(reached, 0, size + 1, false);
+            lower(reached, size + 1);
             reached[0] = true;
             int best = 0;
             for (int at = 0; at < size; at++) {
@@ -904,8 +912,8 @@ public final class OneWaySpell {
             stamp = g.stamp;
             Arrays.fill(child, NONE);
             Arrays.fill(suffix, NONE);
-            Arrays.fill(whole, false);
-            Arrays.fill(inner, false);
+            lower(whole, NODE_MOST);
+            lower(inner, NODE_MOST);
             size = 1;
             suffix[0] = 0;
             for (int k = 0; k < g.count; k++) {
@@ -1196,7 +1204,7 @@ public final class OneWaySpell {
         private final byte[] found = new byte[Word.MOST];
 
         private boolean find(Tree t) {
-            Arrays.fill(met, false);
+            lower(met, STATES);
             size = 0;
             beginnings = 0;
             push(0, 0, NONE, 0);
@@ -1379,7 +1387,7 @@ public final class OneWaySpell {
         /** Rows that begin with a and reach b's end or beyond it, as letters of b go. */
         private void coverRest(Groups g, int a, int b) {
             int size = g.length[b];
-            Arrays.fill(covered, false);
+            lower(covered, covered.length);
             covered[g.length[a]] = true;
             for (int at = g.length[a]; at < size; at++) {
                 for (int k = 0; k < g.count && covered[at]; k++) {

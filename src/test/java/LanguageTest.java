@@ -115,9 +115,9 @@ public final class LanguageTest {
     while (library.find()) {
       used.add(library.group());
     }
-    used.removeAll(Set.of("Arrays.fill", "Arrays.copyOf", "System.arraycopy", "Math.min", "Math.max", "Integer.bitCount",
-        "Long.MAX_VALUE"));
+    used.removeAll(Set.of("Arrays.fill", "Arrays.copyOf", "System.arraycopy", "Math.min", "Math.max", "Integer.bitCount"));
     must(used.isEmpty(), "nothing else of the library: " + used);
+    must(!Pattern.compile("Arrays\\.fill\\([^;]*\\b(true|false)\\b").matcher(code).find(), "Arrays.fill over numbers alone");
     methodLengths(code);
   }
 

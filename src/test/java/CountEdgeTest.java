@@ -196,6 +196,12 @@ public final class CountEdgeTest {
     bordersAre(Tapes.of("sound p=a|bbb;"), "a", "", "", "abbb");
     bordersAre(Tapes.of("sound p=a|bbbb;"), "a", "", "", "");
     s.due("as many as groups", Tapes.of(FOURTEEN).borders(1), 14);
+    // fourteen of six letters; p to z stand at their ends alone, o inside the last one alone
+    OneWaySpell full = Tapes.of("sound p=baaaap|caaaaq|daaaar|eaaaas|faaaat|gaaaau|haaaav|iaaaaw|jaaaax|kaaaay|laaaaz;"
+        + "sound q=maaaap|naaaaq|naoaar;");
+    bordersAre(full, "p q r s t u v w x y z", "", "", "");
+    full.out(10, true);
+    bordersAre(full, "p q r s t u v w x y", "", "", "");
 
     s.says(30, "NONE for another n");
     for (int n : new int[] {0, 5, 6, -1, MAX, MIN}) {

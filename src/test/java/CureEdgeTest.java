@@ -292,6 +292,24 @@ public final class CureEdgeTest {
     s.due("the oldest has gone", x.undo(), false);
     s.due("so the mark stays", Tapes.group(x, 0), "a{");
     s.due("and all are in", x.about(2), 7);
+    // the thirteenth act comes behind a mark, and behind that one more
+    OneWaySpell z = Tapes.of("sound p=a|aa|b|aaa;");
+    z.out(3, true);
+    for (int i = 0; i < 10; i++) {
+      z.out(2, i % 2 == 0);
+    }
+    z.mend(1);
+    z.out(2, true);
+    s.due("the latest of thirteen", z.undo() ? z.about(2) : -1, 7);
+    s.due("the mark ahead", Tapes.group(z, 0), "{a");
+    s.due("the twelfth is the mark", z.undo(), true);
+    s.due("no mark", Tapes.group(z, 0), "a");
+    s.due("the eleventh is b", z.undo() ? z.about(2) : -1, 3);
+    for (int i = 0; i < 9; i++) {
+      s.due("undo down to the second", z.undo(), true);
+    }
+    s.due("the first has gone", z.undo(), false);
+    s.due("so aaa stays out", z.about(2), 7);
     OneWaySpell y = Tapes.of("sound p=a|aa;");
     for (int i = 0; i < 13; i++) {
       s.due("mend " + i, y.mend(2), 1);

@@ -206,6 +206,21 @@ public final class PartEdgeTest {
     s.due("zz is shorter than aba", w.witness(), 2);
     s.due("zz", Tapes.theWord(w), "zz");
 
+    // x and ax are marked, each beside what it is in doubt with; then a comes in
+    OneWaySpell m = Tapes.of("sound p=x|ax|xx|axax|a;");
+    m.out(1, true);
+    m.out(3, true);
+    m.mend(0);
+    m.out(0, true);
+    m.out(1, false);
+    m.out(3, false);
+    m.mend(0);
+    m.out(0, false);
+    m.out(2, true);
+    m.out(3, true);
+    s.due("with the mark", m.witness(), 3);
+    s.due("ax{", Tapes.theWord(m), "ax{");
+
     s.says(13, "NONE, and THE WORD stays, if the TABLE PARTS");
     OneWaySpell v = Tapes.of("sound p=a|ab|bb;");
     s.due("empty", v.witness(), -1);
